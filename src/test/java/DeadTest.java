@@ -1,0 +1,171 @@
+/** Promises 11 and 12: dead and region. */
+public final class DeadTest {
+    private static final Check check = new Check();
+
+    public static void main(String[] args) {
+        withoutGoalsAllIsDead();
+        cornersAndEdges();
+        neverForWallGoalOrNoCell();
+        otherBoxesDoNotCount();
+        thePusherBeginsAnywhere();
+        thePusherMovesAsAlways();
+        noOtherCell();
+        regionOfFloor();
+        regionEndsAtWalls();
+        regionEndsAtBoxes();
+        check.end();
+    }
+
+    private static BoxPusher corridor() {
+        BoxPusher x = new BoxPusher();
+        for (int cell = 4; cell < 8; cell++) {
+            x.cell(cell, BoxPusher.WALL);
+        }
+        return x;
+    }
+
+    private static void deadAre(String name, BoxPusher x, int... cells) {
+        for (int cell = 0; cell < 16; cell++) {
+            boolean want = false;
+            for (int dead : cells) {
+                want |= dead == cell;
+            }
+            check.due(name + ": dead(" + cell + ")", x.dead(cell), want);
+        }
+    }
+
+    private static void withoutGoalsAllIsDead() {
+        deadAre("no goals", new BoxPusher(), 0, 1, 2, 3, 4, 5, 6, 7, 8, 9, 10, 11, 12, 13, 14, 15);
+    }
+
+    private static void cornersAndEdges() {
+        BoxPusher x = new BoxPusher();
+        x.cell(5, BoxPusher.GOAL);
+        deadAre("a goal inside", x, 0, 1, 2, 3, 4, 7, 8, 11, 12, 13, 14, 15);
+        BoxPusher y = new BoxPusher();
+        y.cell(1, BoxPusher.GOAL);
+        deadAre("a goal at the edge", y, 0, 3, 4, 7, 8, 11, 12, 13, 14, 15);
+        BoxPusher z = new BoxPusher();
+        z.cell(15, BoxPusher.GOAL);
+        deadAre("a goal in a corner", z, 0, 1, 2, 3, 4, 8, 12);
+    }
+
+    private static void neverForWallGoalOrNoCell() {
+        BoxPusher x = new BoxPusher();
+        x.cell(3, BoxPusher.WALL);
+        x.cell(12, BoxPusher.GOAL);
+        check.due("dead(3), a wall", x.dead(3), false);
+        check.due("dead(12), a goal in a corner", x.dead(12), false);
+        int[] noCells = {-1, 16, 17, Integer.MIN_VALUE, Integer.MAX_VALUE};
+        for (int cell : noCells) {
+            check.due("dead(" + cell + ")", x.dead(cell), false);
+        }
+    }
+
+    private static void otherBoxesDoNotCount() {
+        BoxPusher x = new BoxPusher();
+        x.cell(5, BoxPusher.GOAL);
+        check.due("dead(6)", x.dead(6), false);
+        x.box(5, true);
+        x.box(7, true);
+        check.due("dead(6) between two boxes", x.dead(6), false);
+        check.due("dead(7) with a box on it", x.dead(7), true);
+        check.due("dead(9)", x.dead(9), false);
+        x.box(5, false);
+        x.box(9, true);
+        check.due("dead(9) with a box on it", x.dead(9), false);
+        check.due("dead(15)", x.dead(15), true);
+    }
+
+    private static void thePusherBeginsAnywhere() {
+        // From 2 or 3 the box on 1 could not be brought to 3, from 0 it can be.
+        BoxPusher x = corridor();
+        x.cell(3, BoxPusher.GOAL);
+        for (int cell : new int[] {0, 1, 2, 3, 8, 15}) {
+            x.place(cell);
+            deadAre("a corridor, pusher on " + cell, x, 0, 8, 9, 10, 11, 12, 13, 14, 15);
+        }
+        // The pusher that is shut in is not where the one that is meant begins.
+        BoxPusher y = new BoxPusher();
+        y.cell(1, BoxPusher.WALL);
+        y.cell(4, BoxPusher.WALL);
+        y.cell(10, BoxPusher.GOAL);
+        check.due("shut in: dead(6)", y.dead(6), false);
+        check.due("shut in: dead(9)", y.dead(9), false);
+        check.due("shut in: dead(0)", y.dead(0), true);
+        check.due("shut in: dead(15)", y.dead(15), true);
+    }
+
+    private static void thePusherMovesAsAlways() {
+        // To turn the box on 2 downwards the pusher would have to stand above it, over the edge.
+        BoxPusher x = new BoxPusher();
+        x.cell(14, BoxPusher.GOAL);
+        check.due("dead(2) above a goal", x.dead(2), true);
+        check.due("dead(6) above a goal", x.dead(6), false);
+        // The box on 6 can be pushed left from 7 alone and must then be pushed down from 1,
+        // to which there is no way from 6: 2 and 0 are walls.
+        BoxPusher y = new BoxPusher();
+        int[] walls = {0, 2, 4, 10};
+        for (int cell : walls) {
+            y.cell(cell, BoxPusher.WALL);
+        }
+        y.cell(13, BoxPusher.GOAL);
+        check.due("dead(6), no way round", y.dead(6), true);
+        check.due("dead(5), beginning on 1", y.dead(5), false);
+        y.cell(2, BoxPusher.FLOOR);
+        check.due("dead(6), a way round by 2", y.dead(6), false);
+    }
+
+    private static void noOtherCell() {
+        BoxPusher x = new BoxPusher();
+        for (int cell = 1; cell < 16; cell++) {
+            x.cell(cell, BoxPusher.WALL);
+        }
+        check.due("the only cell: dead(0)", x.dead(0), true);
+        x.cell(0, BoxPusher.GOAL);
+        check.due("the only cell, a goal: dead(0)", x.dead(0), false);
+        check.due("the only cell: region()", x.region(), 1);
+    }
+
+    private static void regionOfFloor() {
+        BoxPusher x = new BoxPusher();
+        x.cell(9, BoxPusher.GOAL);
+        x.cell(0, BoxPusher.GOAL);
+        check.due("goals are walked on: region()", x.region(), 16);
+        x.box(5, true);
+        check.due("one box: region()", x.region(), 15);
+        x.box(9, true);
+        check.due("two boxes: region()", x.region(), 14);
+        x.cell(15, BoxPusher.WALL);
+        check.due("a wall: region()", x.region(), 13);
+    }
+
+    private static void regionEndsAtWalls() {
+        BoxPusher x = corridor();
+        check.due("above: region()", x.region(), 4);
+        x.place(9);
+        check.due("below: region()", x.region(), 8);
+        x.cell(6, BoxPusher.FLOOR);
+        check.due("a door: region()", x.region(), 13);
+        BoxPusher y = new BoxPusher();
+        y.cell(1, BoxPusher.WALL);
+        y.cell(4, BoxPusher.WALL);
+        check.due("shut in, no way over a corner: region()", y.region(), 1);
+        y.place(5);
+        check.due("outside: region()", y.region(), 13);
+    }
+
+    private static void regionEndsAtBoxes() {
+        BoxPusher x = new BoxPusher();
+        x.box(1, true);
+        x.box(4, true);
+        check.due("shut in by boxes that could be pushed: region()", x.region(), 1);
+        x.move(3);
+        check.due("one pushed: region()", x.region(), 14);
+        BoxPusher y = corridor();
+        y.box(2, true);
+        check.due("a box in a corridor: region()", y.region(), 2);
+        y.place(3);
+        check.due("the other side of it: region()", y.region(), 1);
+    }
+}
