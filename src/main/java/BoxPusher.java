@@ -118,9 +118,23 @@ public final class BoxPusher {
         return movesUntilDone();
     }
 
+    // A level holds all that a number of pushes can come to: it is walked through
+    // to its end before the first push of the next one, so no state comes too late.
     public int leastPushes() {
         searchFrom(state);
-        return pushesUntilDone();
+        int levelStart = 0;
+        for (int count = 0; count < STATES && levelStart < found; count++) {
+            reachByWalkingSince(levelStart);
+            int levelEnd = found;
+            for (int i = levelStart; i < levelEnd; i++) {
+                if (isDone(queue[i])) {
+                    return count;
+                }
+                reachByMoves(queue[i], true);
+            }
+            levelStart = levelEnd;
+        }
+        return NONE;
     }
 
     public int bestMove() {
@@ -361,6 +375,7 @@ public final class BoxPusher {
         }
     }
 
+    // Begins at whatever has been reached, which for dead is more than one state.
     private int movesUntilDone() {
         int levelStart = 0;
         for (int moves = 0; moves < STATES && levelStart < found; moves++) {
@@ -370,24 +385,6 @@ public final class BoxPusher {
                     return moves;
                 }
                 reachByMoves(queue[i], false);
-                reachByMoves(queue[i], true);
-            }
-            levelStart = levelEnd;
-        }
-        return NONE;
-    }
-
-    // A level holds all that a number of pushes can come to: it is walked through
-    // to its end before the first push of the next one, so no state comes too late.
-    private int pushesUntilDone() {
-        int levelStart = 0;
-        for (int count = 0; count < STATES && levelStart < found; count++) {
-            reachByWalkingSince(levelStart);
-            int levelEnd = found;
-            for (int i = levelStart; i < levelEnd; i++) {
-                if (isDone(queue[i])) {
-                    return count;
-                }
                 reachByMoves(queue[i], true);
             }
             levelStart = levelEnd;

@@ -85,6 +85,10 @@ public final class DeadTest {
             x.place(cell);
             deadAre("a corridor, pusher on " + cell, x, 0, 8, 9, 10, 11, 12, 13, 14, 15);
         }
+        x.place(3);
+        x.cell(0, BoxPusher.WALL);
+        check.due("no pusher begins on a wall: dead(1)", x.dead(1), true);
+        check.due("dead(2), beginning on 1", x.dead(2), false);
         // The pusher that is shut in is not where the one that is meant begins.
         BoxPusher y = new BoxPusher();
         y.cell(1, BoxPusher.WALL);
