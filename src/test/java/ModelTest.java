@@ -40,7 +40,8 @@ public final class ModelTest {
             if (which < setUp) {
                 change();
             } else if (which < 72) {
-                step();
+                // Now and then far more undo than moves, so that the row of moves runs empty.
+                step(call / 50 % 3 == 2 ? 90 : 15);
             } else {
                 look();
             }
@@ -67,8 +68,8 @@ public final class ModelTest {
         }
     }
 
-    private void step() {
-        if (next(4) == 0) {
+    private void step(int undoPercent) {
+        if (next(100) < undoPercent) {
             due("undo()", real.undo(), model.undo());
         } else {
             int direction = next(30) == 0 ? next(2) * 5 - 1 : next(4);
