@@ -2,28 +2,26 @@
 final class Check {
     private int wrong = 0;
     private int made = 0;
+    private String sentence = "";
+
+    /** What is looked at from here on belongs to this sentence of the document. */
+    void sentence(String words) {
+        sentence = "\"" + words + "\": ";
+    }
 
     void due(String call, int got, int want) {
-        made++;
-        if (got != want) {
-            wrong++;
-            System.out.println(call + " answered " + got + ", due is " + want);
-        }
+        due(call, String.valueOf(got), String.valueOf(want));
     }
 
     void due(String call, boolean got, boolean want) {
-        made++;
-        if (got != want) {
-            wrong++;
-            System.out.println(call + " answered " + got + ", due is " + want);
-        }
+        due(call, String.valueOf(got), String.valueOf(want));
     }
 
     void due(String call, String got, String want) {
         made++;
         if (!got.equals(want)) {
             wrong++;
-            System.out.println(call + " answered " + got + ", due is " + want);
+            System.out.println(sentence + call + " answered " + got + ", due is " + want);
         }
     }
 

