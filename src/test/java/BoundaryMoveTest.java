@@ -27,6 +27,7 @@ public final class BoundaryMoveTest {
         undoTakesTheLastOff();
         nineteenOfTheExample();
         aRefusedMoveIsNotInTheRow();
+        all512CallsAreAnswered();
         check.end();
     }
 
@@ -314,5 +315,17 @@ public final class BoundaryMoveTest {
         }
         takeBackAll(x, 19, 20);
         check.due("pusher()", x.pusher(), 0);
+    }
+
+    private static void all512CallsAreAnswered() {
+        check.sentence("An object is used for at most 512 calls after it has been made");
+        BoxPusher x = new BoxPusher();
+        check.due("call 1, place(4)", x.place(4), 0);
+        check.due("call 2, box(5, true)", x.box(5, true), 1);
+        for (int i = 0; i < 509; i++) {
+            int due = i % 10 == 0 || i % 10 == 5 ? 1 : 0;
+            check.due("call " + (i + 3) + ", move", x.move(TO_AND_FRO[i % 10]), due);
+        }
+        check.due("call 512, pushes()", x.pushes(), 102);
     }
 }

@@ -55,7 +55,7 @@ public final class BoundaryTermsTest {
 
     private static void thereHasToBeSuchACell() {
         check.sentence("There has to be such a cell");
-        // Neither over the edge nor round it: not from the end of a row to the next, not from the last row to the first.
+        // Neither over the edge nor round it, to the next row or to the first one.
         int[][] edges = {{0, 1, 2, 3}, {12, 13, 14, 15}, {0, 4, 8, 12}, {3, 7, 11, 15}};
         for (int direction = 0; direction < 4; direction++) {
             for (int cell : edges[direction]) {
